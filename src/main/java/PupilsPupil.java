@@ -167,12 +167,11 @@ public final class PupilsPupil {
         if (k < 0 || k >= NAME_MOST) {
             return NONE;
         }
-        int shift = 5 * (NAME_MOST - 1 - k);
         if (kind == 0 && isFact(which)) {
-            return school.factNames[which] >> shift & 31;
+            return school.factNames[which] >> 5 * k & 31;
         }
         if (kind == 1 && isPerson(which)) {
-            return school.personNames[which] >> shift & 31;
+            return school.personNames[which] >> 5 * k & 31;
         }
         return NONE;
     }
@@ -219,9 +218,9 @@ public final class PupilsPupil {
             return NONE;
         }
         switch (what) {
-            case 0: return now.keptYears[k];
-            case 1: return now.keptPeople[k];
-            case 2: return now.keptKinds[k];
+            case 0: return now.keptRows[k] / 4 / PEOPLE_MOST;
+            case 1: return now.keptRows[k] / 4 % PEOPLE_MOST;
+            case 2: return now.keptRows[k] % 4;
             default: return NONE;
         }
     }
@@ -504,7 +503,7 @@ public final class PupilsPupil {
         pastCount = 0;
     }
 
-    /** The words of schools and questions, each as its letters packed like those of a name. */
+    /** The words of schools and questions, packed like names: five bits a letter, the first lowest. */
     private enum Word {
         FACT("fact"),
         PERSON("person"),
@@ -562,8 +561,8 @@ public final class PupilsPupil {
 
         Word(String letters, boolean own, int slot, int scopes) {
             int name = 0;
-            for (int k = 0; k < NAME_MOST; k++) {
-                name = name * 32 + (k < letters.length() ? letters.charAt(k) - 'a' + 1 : 0);
+            for (int k = 0; k < letters.length(); k++) {
+                name |= (letters.charAt(k) - 'a' + 1) << 5 * k;
             }
             this.packed = name;
             this.own = own;
@@ -592,13 +591,13 @@ public final class PupilsPupil {
         int length = 0;
         int fault = 0;
         int place = NONE;
-        // What stands next: its first byte, the byte behind it, what it is.
+        // What stands next: its first byte, the byte behind it, what it is; a word's letters
+        // (0 when it is none, or too long for a known word or a name), a number's value.
         int start = 0;
         int stop = 0;
         int kind = NONE;
         int packed = 0;
         int value = 0;
-        Word word = null;
 
         void append(int four) {
             for (int shift = 24; shift >= 0; shift -= 8) {
@@ -627,61 +626,52 @@ public final class PupilsPupil {
         }
 
         boolean failHere() {
-            return fail(NO_GRAMMAR, start);
-        }
-
-        static boolean isLetter(int sign) {
-            return sign >= 'a' && sign <= 'z';
-        }
-
-        static boolean isDigit(int sign) {
-            return sign >= '0' && sign <= '9';
+            fault = NO_GRAMMAR;
+            place = start;
+            return false;
         }
 
         /** Goes on to what stands next; words and numbers are taken whole, however long. */
         void advance() {
-            start = stop;
-            while (start < length && (byteAt(start) == ' ' || byteAt(start) == '\n')) {
-                start++;
+            int at = stop;
+            while (at < length && (bytes[at] == ' ' || bytes[at] == '\n')) {
+                at++;
             }
-            stop = start;
-            kind = byteAt(start);
-            word = null;
-            if (isLetter(kind)) {
-                advanceWord();
-            } else if (isDigit(kind)) {
-                advanceNumber();
-            } else if (start < length) {
-                stop++;
-            }
-        }
-
-        private void advanceWord() {
-            kind = isDigit(byteAt(start - 1)) ? GLUED : A_WORD;
-            while (stop < length && isLetter(byteAt(stop))) {
-                stop++;
-            }
+            int before = at >= 1 && at <= length ? bytes[at - 1] : NONE;
+            start = at;
+            kind = at < length ? bytes[at] : NONE;
             packed = 0;
-            for (int k = start; k < start + NAME_MOST; k++) {
-                packed = packed * 32 + (k < stop ? byteAt(k) - 'a' + 1 : 0);
+            value = 0;
+            if (kind >= 'a' && kind <= 'z') {
+                kind = before >= '0' && before <= '9' ? GLUED : A_WORD;
+                while (at < length && bytes[at] >= 'a' && bytes[at] <= 'z') {
+                    int letter = bytes[at] - 'a' + 1;
+                    packed = at - start < NAME_MOST ? packed | (letter << 5 * (at - start)) : 0;
+                    at++;
+                }
+            } else if (kind >= '0' && kind <= '9') {
+                kind = before >= 'a' && before <= 'z' ? GLUED : A_NUMBER;
+                while (at < length && bytes[at] >= '0' && bytes[at] <= '9') {
+                    value = at - start < DIGITS_MOST ? value * 10 + bytes[at] - '0' : value;
+                    at++;
+                }
+            } else if (at < length) {
+                at++;
             }
-            if (kind == A_WORD && stop - start <= NAME_MOST) {
-                word = Word.of(packed);
-            }
+            stop = at;
         }
 
-        private void advanceNumber() {
-            kind = isLetter(byteAt(start - 1)) ? GLUED : A_NUMBER;
-            value = 0;
-            while (stop < length && isDigit(byteAt(stop))) {
-                // Longer ones are a fault wherever they stand: their value is never asked.
-                value = stop - start < DIGITS_MOST ? value * 10 + byteAt(stop) - '0' : value;
-                stop++;
-            }
+        boolean isWord(Word wanted) {
+            return kind == A_WORD && packed == wanted.packed;
+        }
+
+        /** The known word that stands next; null when there is none. */
+        Word knownWord() {
+            return kind == A_WORD ? Word.of(packed) : null;
         }
 
         boolean expectWord(Word wanted) {
-            if (word != wanted) {
+            if (!isWord(wanted)) {
                 return failHere();
             }
             advance();
@@ -715,6 +705,7 @@ public final class PupilsPupil {
         /** The name that stands next, packed; NONE with a fault. */
         int takeName() {
             int taken = NONE;
+            Word word = knownWord();
             if (kind != A_WORD) {
                 failHere();
             } else if (stop - start > NAME_MOST) {
@@ -840,7 +831,10 @@ public final class PupilsPupil {
         }
 
         private static int limited(long value) {
-            return value > VALUE_MOST ? VALUE_MOST : value < -VALUE_MOST ? -VALUE_MOST : (int) value;
+            if (value > VALUE_MOST) {
+                return VALUE_MOST;
+            }
+            return value < -VALUE_MOST ? -VALUE_MOST : (int) value;
         }
     }
 
@@ -860,7 +854,7 @@ public final class PupilsPupil {
 
         boolean readTest(int open) {
             boolean fine = readBoth(open);
-            for (int n = 0; n < TAPE_MOST && fine && text.word == Word.OR; n++) {
+            for (int n = 0; n < TAPE_MOST && fine && text.isWord(Word.OR); n++) {
                 text.advance();
                 fine = readBoth(open);
                 into.add(Formula.EITHER);
@@ -870,7 +864,7 @@ public final class PupilsPupil {
 
         private boolean readBoth(int open) {
             boolean fine = readClaim(open);
-            for (int n = 0; n < TAPE_MOST && fine && text.word == Word.AND; n++) {
+            for (int n = 0; n < TAPE_MOST && fine && text.isWord(Word.AND); n++) {
                 text.advance();
                 fine = readClaim(open);
                 into.add(Formula.BOTH);
@@ -889,12 +883,12 @@ public final class PupilsPupil {
 
         // What the document calls the FACT of a TEST, which is none of the school's facts.
         private boolean readClaim(int open) {
-            if (text.word == Word.NOT) {
+            if (text.isWord(Word.NOT)) {
                 boolean fine = opens(open) && readClaim(open + 1);
                 into.add(Formula.NEGATE);
                 return fine;
             }
-            if (text.word == Word.ALL) {
+            if (text.isWord(Word.ALL)) {
                 text.advance();
                 into.add(1);
                 return true;
@@ -902,10 +896,6 @@ public final class PupilsPupil {
             if (text.kind == '[') {
                 return opens(open) && readTest(open + 1) && text.expectSign(']');
             }
-            return readComparison(open);
-        }
-
-        private boolean readComparison(int open) {
             if (!readSum(open)) {
                 return false;
             }
@@ -915,7 +905,8 @@ public final class PupilsPupil {
             }
             text.advance();
             boolean fine = readSum(open);
-            into.add(sign == '<' ? Formula.IS_LESS : sign == '>' ? Formula.IS_MORE : Formula.IS_SAME);
+            int unequal = sign == '<' ? Formula.IS_LESS : Formula.IS_MORE;
+            into.add(sign == '=' ? Formula.IS_SAME : unequal);
             return fine;
         }
 
@@ -950,7 +941,7 @@ public final class PupilsPupil {
             if (text.kind == '(') {
                 return opens(open) && readSum(open + 1) && text.expectSign(')');
             }
-            Word word = text.word;
+            Word word = text.knownWord();
             if (word == Word.MIN || word == Word.MAX) {
                 text.advance();
                 return readPair(word == Word.MIN ? Formula.LESSER : Formula.GREATER, open);
@@ -1069,7 +1060,7 @@ public final class PupilsPupil {
         }
 
         private boolean readStatement() {
-            Word word = text.word;
+            Word word = text.knownWord();
             if (word == null) {
                 return text.failHere();
             }
@@ -1246,7 +1237,7 @@ public final class PupilsPupil {
         boolean read() {
             text.open();
             formula.clear();
-            asked = text.word;
+            asked = text.knownWord();
             boolean ofTest = asked == Word.FIRST || asked == Word.LAST || asked == Word.OFTEN;
             boolean ofSum = asked == Word.TOTAL || asked == Word.MOST || asked == Word.LEAST;
             if (!ofTest && !ofSum) {
@@ -1309,9 +1300,8 @@ public final class PupilsPupil {
         final int[] right = new int[PEOPLE_MOST];
         final int[] wrong = new int[PEOPLE_MOST];
         final int[] left = new int[PEOPLE_MOST];
-        final int[] keptYears = new int[KEPT_MOST];
-        final int[] keptPeople = new int[KEPT_MOST];
-        final int[] keptKinds = new int[KEPT_MOST];
+        // Each row is (year * PEOPLE_MOST + person) * 4 + kind: states are copied often.
+        final int[] keptRows = new int[KEPT_MOST];
 
         State() {
             Arrays.fill(masters, NONE);
@@ -1337,9 +1327,7 @@ public final class PupilsPupil {
             System.arraycopy(other.right, 0, right, 0, PEOPLE_MOST);
             System.arraycopy(other.wrong, 0, wrong, 0, PEOPLE_MOST);
             System.arraycopy(other.left, 0, left, 0, PEOPLE_MOST);
-            System.arraycopy(other.keptYears, 0, keptYears, 0, KEPT_MOST);
-            System.arraycopy(other.keptPeople, 0, keptPeople, 0, KEPT_MOST);
-            System.arraycopy(other.keptKinds, 0, keptKinds, 0, KEPT_MOST);
+            System.arraycopy(other.keptRows, 0, keptRows, 0, KEPT_MOST);
         }
 
         static boolean isPlace(int person) {
@@ -1380,7 +1368,10 @@ public final class PupilsPupil {
             if (!isPlace(person)) {
                 return NEITHER;
             }
-            return hasBit(right[person], fact) ? RIGHTLY : hasBit(wrong[person], fact) ? WRONGLY : NEITHER;
+            if (hasBit(right[person], fact)) {
+                return RIGHTLY;
+            }
+            return hasBit(wrong[person], fact) ? WRONGLY : NEITHER;
         }
 
         void believe(int person, int fact, int belief) {
@@ -1398,14 +1389,10 @@ public final class PupilsPupil {
 
         void keep(int person, int kind) {
             if (keptCount >= KEPT_MOST) {
-                System.arraycopy(keptYears, 1, keptYears, 0, KEPT_MOST - 1);
-                System.arraycopy(keptPeople, 1, keptPeople, 0, KEPT_MOST - 1);
-                System.arraycopy(keptKinds, 1, keptKinds, 0, KEPT_MOST - 1);
+                System.arraycopy(keptRows, 1, keptRows, 0, KEPT_MOST - 1);
                 keptCount = KEPT_MOST - 1;
             }
-            keptYears[keptCount] = year;
-            keptPeople[keptCount] = person;
-            keptKinds[keptCount] = kind;
+            keptRows[keptCount] = (year * PEOPLE_MOST + person) * 4 + kind;
             keptCount++;
         }
 
