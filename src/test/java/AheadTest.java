@@ -53,6 +53,24 @@ public final class AheadTest {
         Check.due("behind 41 YEARS", z.doctor(0), -1);
     }
 
+    /** The chain with its last pupil told first: all who learn count, the first one, too. */
+    private static void upsideDown() {
+        String school = "fact a worth 3;fact b worth 5;person cid calm 30;person bob calm 20;person ann calm 10;"
+                + "knows ann a;knows ann b;taught bob by ann;taught cid by bob;pass 8;tries 3;";
+        PupilsPupil x = Check.schooled(school);
+        Check.due("doctor(2)", x.doctor(2), 3);
+        Check.due("later(3, 0)", x.later(3, 0), 7);
+        Check.due("law(3, 0)", x.law(3, 0), 3);
+        Check.due("law(3, 1)", x.law(3, 1), 1);
+        Check.due("master(0, 1)", x.master(0, 1), 2);
+        Check.due("gift(2, 2, 0): a to bob", x.gift(2, 2, 0), 1);
+        Check.due("years(3)", x.years(3), 3);
+        PupilsPupil y = Check.schooled("fact a worth 1;person p calm 1;person q calm 1;taught p by q;errs q a;");
+        Check.due("lost(0)", y.lost(0), 1);
+        Check.hear(y, 0, 2);
+        Check.due("sources(0, 1)", y.sources(0, 1), 2);
+    }
+
     private static void lost() {
         String school = "fact a worth 1;fact b worth 1;fact c worth 1;person p calm 1;person q calm 2;"
                 + "person r calm 3;taught q by p;taught r by q;errs p a;errs p b;knows p c;errs q b;errs r b;";
@@ -163,6 +181,9 @@ public final class AheadTest {
         Check.due("by one DOCTOR", z.law(3, 1), 1);
         z.years(9);
         Check.due("not by 9", z.has(6), 0);
+        PupilsPupil nine = Check.schooled(CHAIN + "sits left=9 and marks>7;");
+        Check.due("9 it must be", nine.law(3, 0), 9);
+        Check.due("for one DOCTOR", nine.law(3, 1), 1);
     }
 
     private static void doctorsAlreadyCount() {
@@ -176,6 +197,7 @@ public final class AheadTest {
         later();
         laterIsWithoutDraws();
         doctor();
+        upsideDown();
         lost();
         master();
         sooner();

@@ -77,12 +77,13 @@ public final class ImageTest {
         Check.due("taught by himself", Check.on(x, with(image, 2, 1)), false);
         Check.due("taught by his pupil", Check.on(x, with(image, 2, 2)), false);
         Check.due("a ring of three", Check.on(x, with(with(image, 2, 3), 12, 2)), false);
+        Check.due("a ring of the two others", Check.on(x, with(with(with(image, 2, 2), 7, 3), 12, 2)), false);
         Check.due("RIGHT of no such FACT", Check.on(x, with(image, 8, 4)), false);
         Check.due("WRONG of no such FACT", Check.on(x, with(image, 9, 4)), false);
         Check.due("RIGHT and WRONG", Check.on(x, with(image, 3, 3)), false);
         Check.due("10 tries", Check.on(x, with(image, 5, 10)), false);
         Check.due("4 of PASSED and DOCTOR", Check.on(x, with(image, 6, 4)), false);
-        Check.due("status(5)", x.status(5), 16);
+        Check.due("status(5)", x.status(5), 17);
         Check.due("all stays: YEAR", x.has(4), 1);
         Check.due("all stays: ACTS", x.has(10), 2);
         Check.due("all stays: KEPT", x.has(8), 1);
@@ -97,6 +98,36 @@ public final class ImageTest {
         Check.due("ann is taught by cid", x.person(0, 1), 2);
     }
 
+    private static void eightPeople() {
+        StringBuilder school = new StringBuilder();
+        for (char c = 'a'; c <= 'h'; c++) {
+            school.append("fact ").append(c).append("f worth 1;person ").append(c).append("p calm 1;");
+            school.append("knows ap ").append(c).append("f;");
+            school.append(c == 'a' ? "" : "taught " + c + "p by " + (char) (c - 1) + "p;");
+        }
+        PupilsPupil x = Check.schooled(school + "pass 8;tries 9;");
+        Check.due("image()", x.image(), 43);
+        x.years(8);
+        x.years(100);
+        x.years(100);
+        x.years(92);
+        int[] image = Check.imageOf(x);
+        Check.due("the higher byte of YEAR 300", image[0], 1);
+        Check.due("the lower byte", image[1], 44);
+        Check.due("ap: all FACTS", image[3], 255);
+        Check.due("hp: taught by gp", image[37], 7);
+        Check.due("the last byte", x.octet(42), Check.summed(image)[42]);
+        Check.due("nothing behind it", x.octet(43), -1);
+        Check.school(x, school + "pass 8;tries 9;");
+        Check.due("on()", Check.on(x, image), true);
+        Check.due("YEAR", x.has(4), 300);
+        Check.due("PASSED", x.has(5), 3);
+        Check.due("DOCTORS", x.has(6), 1);
+        Check.due("on() again is no more", Check.on(x, with(with(image, 6, 0), 11, 0)), true);
+        Check.due("PASSED", x.has(5), 1);
+        Check.due("DOCTORS", x.has(6), 0);
+    }
+
     private static void noSchool() {
         PupilsPupil x = new PupilsPupil();
         Check.due("image()", x.image(), 3);
@@ -109,6 +140,7 @@ public final class ImageTest {
         image();
         comesBack();
         refusedOnes();
+        eightPeople();
         noSchool();
         Check.close();
     }

@@ -109,6 +109,20 @@ public final class QuestionTest {
         Check.due("not, [, by, ( together", Check.ask(x, 0, "often not[not[by by 9=1]]"), 2);
     }
 
+    private static void longOnes() {
+        PupilsPupil x = Check.schooled(SCHOOL);
+        String sum = "1+".repeat(796) + "1";
+        for (int k = 0; k < 4; k++) {
+            Check.due("797 ones", Check.ask(x, 0, "most " + sum), 797);
+            Check.due("fault", x.fault(0), 0);
+        }
+        Check.due("eighths of a test", Check.ask(x, 0, "often " + "1=1 and ".repeat(198) + "1=2"), 0);
+        Check.due("the other way", Check.ask(x, 0, "often " + "1=2 or ".repeat(198) + "1=1"), 4);
+        Check.due("deep ones", Check.ask(x, 0, "most 1+1*(1+1*(1+1*(1+1*(1+1*(1+1*(1+1*min(1,1)))))))"), NOTHING);
+        Check.due("fault", x.fault(0), 4);
+        Check.due("not so deep", Check.ask(x, 0, "most 1+1*(1+1*min(1,1+1*(1+1*max(1,1+1*(1+1*(1+1))))))"), 3);
+    }
+
     private static void noneSuch() {
         PupilsPupil x = Check.schooled(SCHOOL);
         Check.due("none such", Check.ask(x, 3, "often all"), NOTHING);
@@ -125,6 +139,7 @@ public final class QuestionTest {
         withoutFacts();
         faults();
         openOnes();
+        longOnes();
         noneSuch();
         Check.close();
     }

@@ -33,6 +33,8 @@ public final class SchoolTextTest {
         fine("fact f worth 9;", 1);
         fine("fact\nf\nworth 0001 ;", 1);
         fine("fact first worth 1;person total calm 99;person abcdef calm 0;", 3);
+        fine("fact last worth 1;fact often worth 1;person most calm 1;person least calm 1;", 4);
+        fine("fact a worth 1;person z calm 0;knows z a;", 3);
         fine("pass 0;pass 99;tries 0;tries 9;ill 0;ill 100;", 6);
         fine(FP + "knows p f;", 3);
         fine(PQR + "taught p by q;taught q by r;", 5);
@@ -76,6 +78,13 @@ public final class SchoolTextTest {
         fault("pass;", 1, 4);
         fault("pass -1;", 1, 5);
         fault("or;", 1, 0);
+        fault("factd f worth 1;", 1, 0);
+        fault("persond p calm 1;", 1, 0);
+        fault("garbleh all;", 1, 0);
+        fault("taughtl p by p;", 1, 0);
+        faultBehind(PQR, "taught p;", 1, 8);
+        faultBehind(FP, "knows p;", 1, 7);
+        faultBehind(FP, "knows;", 1, 5);
         fault("first all;", 1, 0);
     }
 
@@ -128,6 +137,10 @@ public final class SchoolTextTest {
         fault("takes not[not[not((1))=1]];", 4, 18);
         fault("takes not[not[not min(1,min(2,3))=1]];", 4, 27);
         fine("takes not[not[not min(1,2)+min(2,3)=max(1,2)]];", 1);
+        fine("takes not not not not min((1),(2))=1;", 1);
+        fault("takes not not not not not min((1),(2))=1;", 4, 30);
+        fault("takes not not not not not min(1,(2))=1;", 4, 32);
+        fault("takes not not not not min(1,((2)))=1;", 4, 29);
         fine("takes(1)+(1)+(1)+(1)+(1)+(1)+(1)=7;", 1);
         fine("takes not all and not all and not all and not all and not all and not all and not all;", 1);
         fault("takes not not not not not not (1)=1;", 4, 30);
@@ -149,6 +162,11 @@ public final class SchoolTextTest {
         takes("not;", 1, 3);
         takes("not1=1;", 1, 3);
         takes("1=1or all;", 1, 3);
+        takes("1=0or all;", 1, 3);
+        takes("1=9and all;", 1, 3);
+        takes("first=1;", 1, 0);
+        takes("1=most;", 1, 2);
+        fault("sits total=1;", 1, 5);
         takes("min 1;", 1, 4);
         takes("min(1);", 1, 5);
         takes("min(1,2,3)=1;", 1, 7);
