@@ -57,10 +57,10 @@ public final class PupilsPupil {
     private static final int RIGHTLY = 1;
     private static final int WRONGLY = 2;
 
-    private static final int TAKES = 0;
-    private static final int GARBLE = 1;
-    private static final int SITS = 2;
-    private static final int TESTS = 3;
+    private static final int LAW_TAKES = 0;
+    private static final int LAW_GARBLE = 1;
+    private static final int LAW_SITS = 2;
+    private static final int LAWS = 3;
 
     // Where a word is a PART: in takes and garble, in sits, in a question.
     private static final int IN_LESSON = 1;
@@ -69,19 +69,19 @@ public final class PupilsPupil {
     private static final int ANYWHERE = 7;
 
     // The values that a formula can ask for, by their places in a row.
-    private static final int CALM = 0;
-    private static final int RIGHT = 1;
-    private static final int WRONG = 2;
-    private static final int YEAR = 3;
-    private static final int WORTH = 4;
-    private static final int CLASS = 5;
-    private static final int MCALM = 6;
-    private static final int LEFT = 7;
-    private static final int MARKS = 8;
-    private static final int NUMBER = 9;
-    private static final int KNOWS = 10;
-    private static final int ERRS = 11;
-    private static final int WHO_IS_RIGHT = 12;
+    private static final int SLOT_CALM = 0;
+    private static final int SLOT_RIGHT = 1;
+    private static final int SLOT_WRONG = 2;
+    private static final int SLOT_YEAR = 3;
+    private static final int SLOT_WORTH = 4;
+    private static final int SLOT_CLASS = 5;
+    private static final int SLOT_MCALM = 6;
+    private static final int SLOT_LEFT = 7;
+    private static final int SLOT_MARKS = 8;
+    private static final int SLOT_NUMBER = 9;
+    private static final int SLOT_KNOWS = 10;
+    private static final int SLOT_ERRS = 11;
+    private static final int SLOT_WHO_IS_RIGHT = 12;
     private static final int SLOTS = 13;
 
     private final Text text = new Text();
@@ -521,18 +521,18 @@ public final class PupilsPupil {
         ALL("all"),
         MIN("min"),
         MAX("max"),
-        CALM("calm", PupilsPupil.CALM, ANYWHERE),
-        RIGHT("right", PupilsPupil.RIGHT, ANYWHERE),
-        WRONG("wrong", PupilsPupil.WRONG, ANYWHERE),
-        YEAR("year", PupilsPupil.YEAR, ANYWHERE),
-        WORTH("worth", PupilsPupil.WORTH, IN_LESSON | IN_QUESTION),
-        CLASS("class", PupilsPupil.CLASS, IN_LESSON),
-        MCALM("mcalm", PupilsPupil.MCALM, IN_LESSON),
-        LEFT("left", PupilsPupil.LEFT, IN_SITS | IN_QUESTION),
-        MARKS("marks", PupilsPupil.MARKS, IN_SITS | IN_QUESTION),
-        NUMBER("number", PupilsPupil.NUMBER, IN_QUESTION),
-        KNOWS("knows", PupilsPupil.KNOWS, IN_QUESTION),
-        ERRS("errs", PupilsPupil.ERRS, IN_QUESTION),
+        CALM("calm", SLOT_CALM, ANYWHERE),
+        RIGHT("right", SLOT_RIGHT, ANYWHERE),
+        WRONG("wrong", SLOT_WRONG, ANYWHERE),
+        YEAR("year", SLOT_YEAR, ANYWHERE),
+        WORTH("worth", SLOT_WORTH, IN_LESSON | IN_QUESTION),
+        CLASS("class", SLOT_CLASS, IN_LESSON),
+        MCALM("mcalm", SLOT_MCALM, IN_LESSON),
+        LEFT("left", SLOT_LEFT, IN_SITS | IN_QUESTION),
+        MARKS("marks", SLOT_MARKS, IN_SITS | IN_QUESTION),
+        NUMBER("number", SLOT_NUMBER, IN_QUESTION),
+        KNOWS("knows", SLOT_KNOWS, IN_QUESTION),
+        ERRS("errs", SLOT_ERRS, IN_QUESTION),
         FIRST("first", false),
         LAST("last", false),
         OFTEN("often", false),
@@ -742,8 +742,8 @@ public final class PupilsPupil {
 
         final int[] steps = new int[TAPE_MOST];
         // Each part is the steps from .. to; none of them, if it is not told.
-        final int[] from = new int[TESTS];
-        final int[] to = new int[TESTS];
+        final int[] from = new int[LAWS];
+        final int[] to = new int[LAWS];
         final int[] stack = new int[STACK_MOST];
         int size = 0;
 
@@ -755,23 +755,23 @@ public final class PupilsPupil {
 
         void copyFrom(Formula other) {
             System.arraycopy(other.steps, 0, steps, 0, TAPE_MOST);
-            System.arraycopy(other.from, 0, from, 0, TESTS);
-            System.arraycopy(other.to, 0, to, 0, TESTS);
+            System.arraycopy(other.from, 0, from, 0, LAWS);
+            System.arraycopy(other.to, 0, to, 0, LAWS);
             size = other.size;
         }
 
         boolean isTold(int part) {
-            return part >= 0 && part < TESTS && to[part] > from[part];
+            return part >= 0 && part < LAWS && to[part] > from[part];
         }
 
         void begin(int part) {
-            if (part >= 0 && part < TESTS) {
+            if (part >= 0 && part < LAWS) {
                 from[part] = size;
             }
         }
 
         void finish(int part) {
-            if (part >= 0 && part < TESTS) {
+            if (part >= 0 && part < LAWS) {
                 to[part] = size;
             }
         }
@@ -804,7 +804,7 @@ public final class PupilsPupil {
                 } else if (step == NEGATE && top >= 1) {
                     stack[top - 1] = 1 - stack[top - 1];
                 } else if (step == RIGHT_BY && top >= 1) {
-                    stack[top - 1] = hasBit(slots[WHO_IS_RIGHT], stack[top - 1]) ? 1 : 0;
+                    stack[top - 1] = hasBit(slots[SLOT_WHO_IS_RIGHT], stack[top - 1]) ? 1 : 0;
                 } else if (top >= 2) {
                     top--;
                     stack[top - 1] = joined(step, stack[top - 1], stack[top]);
@@ -852,7 +852,7 @@ public final class PupilsPupil {
             this.into = into;
         }
 
-        boolean readTest(int open) {
+        private boolean readTest(int open) {
             boolean fine = readBoth(open);
             for (int n = 0; n < TAPE_MOST && fine && text.isWord(Word.OR); n++) {
                 text.advance();
@@ -910,7 +910,7 @@ public final class PupilsPupil {
             return fine;
         }
 
-        boolean readSum(int open) {
+        private boolean readSum(int open) {
             boolean fine = readProduct(open);
             for (int n = 0; n < TAPE_MOST && fine && (text.kind == '+' || text.kind == '-'); n++) {
                 int step = text.kind == '+' ? Formula.ADD : Formula.SUBTRACT;
@@ -1070,9 +1070,9 @@ public final class PupilsPupil {
                 case KNOWS: return readBelief(RIGHTLY);
                 case ERRS: return readBelief(WRONGLY);
                 case TAUGHT: return readTaught();
-                case TAKES: return readLaw(TAKES, IN_LESSON);
-                case GARBLE: return readLaw(GARBLE, IN_LESSON);
-                case SITS: return readLaw(SITS, IN_SITS);
+                case TAKES: return readLaw(LAW_TAKES, IN_LESSON);
+                case GARBLE: return readLaw(LAW_GARBLE, IN_LESSON);
+                case SITS: return readLaw(LAW_SITS, IN_SITS);
                 case PASS: return readEnough();
                 case TRIES: return readTries();
                 case ILL: return readIllness();
@@ -1276,17 +1276,17 @@ public final class PupilsPupil {
             }
             int belief = now.beliefOf(person, fact);
             int rightPeople = whoHas(now.right, fact);
-            slots[NUMBER] = fact;
-            slots[WORTH] = school.worth[fact];
-            slots[KNOWS] = belief == RIGHTLY ? 1 : 0;
-            slots[ERRS] = belief == WRONGLY ? 1 : 0;
-            slots[RIGHT] = Integer.bitCount(rightPeople);
-            slots[WRONG] = Integer.bitCount(whoHas(now.wrong, fact));
-            slots[CALM] = school.calm[person];
-            slots[MARKS] = school.marksIn(now, person);
-            slots[LEFT] = now.left[person];
-            slots[YEAR] = now.year;
-            slots[WHO_IS_RIGHT] = rightPeople;
+            slots[SLOT_NUMBER] = fact;
+            slots[SLOT_WORTH] = school.worth[fact];
+            slots[SLOT_KNOWS] = belief == RIGHTLY ? 1 : 0;
+            slots[SLOT_ERRS] = belief == WRONGLY ? 1 : 0;
+            slots[SLOT_RIGHT] = Integer.bitCount(rightPeople);
+            slots[SLOT_WRONG] = Integer.bitCount(whoHas(now.wrong, fact));
+            slots[SLOT_CALM] = school.calm[person];
+            slots[SLOT_MARKS] = school.marksIn(now, person);
+            slots[SLOT_LEFT] = now.left[person];
+            slots[SLOT_YEAR] = now.year;
+            slots[SLOT_WHO_IS_RIGHT] = rightPeople;
         }
     }
 
@@ -1503,14 +1503,14 @@ public final class PupilsPupil {
             if (master == NONE) {
                 return NONE;
             }
-            boolean tested = school.tests.isTold(TAKES);
+            boolean tested = school.tests.isTold(LAW_TAKES);
             if (tested) {
                 fillLesson(state, pupil, master);
             }
             for (int k = 0; k < school.facts && k < FACTS_MOST; k++) {
-                slots[WORTH] = school.worth[k];
+                slots[SLOT_WORTH] = school.worth[k];
                 if (canTeach(state.beliefOf(master, k), state.beliefOf(pupil, k))
-                        && (!tested || school.tests.value(TAKES, slots) == 1)) {
+                        && (!tested || school.tests.value(LAW_TAKES, slots) == 1)) {
                     return k;
                 }
             }
@@ -1529,12 +1529,12 @@ public final class PupilsPupil {
             if (state.beliefOf(master, fact) == WRONGLY) {
                 return WRONGLY;
             }
-            if (!school.tests.isTold(GARBLE) || fact < 0 || fact >= FACTS_MOST) {
+            if (!school.tests.isTold(LAW_GARBLE) || fact < 0 || fact >= FACTS_MOST) {
                 return RIGHTLY;
             }
             fillLesson(state, pupil, master);
-            slots[WORTH] = school.worth[fact];
-            return school.tests.value(GARBLE, slots) == 1 ? WRONGLY : RIGHTLY;
+            slots[SLOT_WORTH] = school.worth[fact];
+            return school.tests.value(LAW_GARBLE, slots) == 1 ? WRONGLY : RIGHTLY;
         }
 
         private void fillLesson(State state, int pupil, int master) {
@@ -1542,18 +1542,18 @@ public final class PupilsPupil {
                 return;
             }
             fillPerson(state, pupil);
-            slots[CLASS] = Integer.bitCount(state.pupilsOf(master));
-            slots[MCALM] = school.calm[master];
+            slots[SLOT_CLASS] = Integer.bitCount(state.pupilsOf(master));
+            slots[SLOT_MCALM] = school.calm[master];
         }
 
         private void fillPerson(State state, int person) {
             if (!State.isPlace(person)) {
                 return;
             }
-            slots[CALM] = school.calm[person];
-            slots[RIGHT] = Integer.bitCount(state.right[person]);
-            slots[WRONG] = Integer.bitCount(state.wrong[person]);
-            slots[YEAR] = state.year;
+            slots[SLOT_CALM] = school.calm[person];
+            slots[SLOT_RIGHT] = Integer.bitCount(state.right[person]);
+            slots[SLOT_WRONG] = Integer.bitCount(state.wrong[person]);
+            slots[SLOT_YEAR] = state.year;
         }
 
         private int examine(State state, int away) {
@@ -1564,9 +1564,9 @@ public final class PupilsPupil {
                 }
                 int sum = school.marksIn(state, k);
                 fillPerson(state, k);
-                slots[LEFT] = state.left[k];
-                slots[MARKS] = sum;
-                if (school.tests.isTold(SITS) && school.tests.value(SITS, slots) == 0) {
+                slots[SLOT_LEFT] = state.left[k];
+                slots[SLOT_MARKS] = sum;
+                if (school.tests.isTold(LAW_SITS) && school.tests.value(LAW_SITS, slots) == 0) {
                     continue;
                 }
                 if (sum >= school.enough) {
