@@ -1364,6 +1364,15 @@ public final class PupilsPupil {
             return pupils;
         }
 
+        /** The facts, as bits, that a pupil can learn from a master. */
+        int lessonsFor(int pupil, int master) {
+            if (!isPlace(pupil) || !isPlace(master)) {
+                return 0;
+            }
+            int unheard = ~(right[pupil] | wrong[pupil]);
+            return (right[master] | wrong[master]) & unheard | wrong[pupil] & right[master];
+        }
+
         int beliefOf(int person, int fact) {
             if (!isPlace(person)) {
                 return NEITHER;
@@ -1503,22 +1512,18 @@ public final class PupilsPupil {
             if (master == NONE) {
                 return NONE;
             }
-            boolean tested = school.tests.isTold(LAW_TAKES);
+            int open = state.lessonsFor(pupil, master);
+            boolean tested = open != 0 && school.tests.isTold(LAW_TAKES);
             if (tested) {
                 fillLesson(state, pupil, master);
             }
-            for (int k = 0; k < school.facts && k < FACTS_MOST; k++) {
+            for (int k = 0; k < school.facts && k < FACTS_MOST && open != 0; k++) {
                 slots[SLOT_WORTH] = school.worth[k];
-                if (canTeach(state.beliefOf(master, k), state.beliefOf(pupil, k))
-                        && (!tested || school.tests.value(LAW_TAKES, slots) == 1)) {
+                if (hasBit(open, k) && (!tested || school.tests.value(LAW_TAKES, slots) == 1)) {
                     return k;
                 }
             }
             return NONE;
-        }
-
-        private static boolean canTeach(int masters, int pupils) {
-            return pupils == NEITHER ? masters != NEITHER : pupils == WRONGLY && masters == RIGHTLY;
         }
 
         private int beliefTaken(State state, int pupil, int fact) {
