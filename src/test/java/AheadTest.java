@@ -2,14 +2,6 @@
 public final class AheadTest {
     private static final String CHAIN = YearTest.CHAIN;
 
-    /** The object's image with another year. */
-    private static void setYear(PupilsPupil x, int year) {
-        int[] image = Check.imageOf(x);
-        image[0] = year / 256;
-        image[1] = year % 256;
-        Check.due("on() with YEAR " + year, Check.on(x, Check.summed(image)), true);
-    }
-
     private static void later() {
         PupilsPupil x = Check.schooled(CHAIN + "errs cid b;");
         int[][] want = {{0, 0, 1, 2}, {1, 0, 1, 3}, {3, 0, 1, 5}, {7, 1, 0, 6}, {7, 1, 0, 6}};
@@ -24,7 +16,7 @@ public final class AheadTest {
         Check.due("later(0, 4)", x.later(0, 4), -1);
         Check.due("later(0, -1)", x.later(0, -1), -1);
         Check.due("nothing is done by it", x.has(4) + x.has(5) + x.has(8) + x.has(10), 0);
-        setYear(x, 970);
+        Check.setYear(x, 970);
         Check.due("later(29, 1)", x.later(29, 1), 1);
         Check.due("later(30, 1)", x.later(30, 1), -1);
     }
@@ -41,9 +33,9 @@ public final class AheadTest {
         Check.due("doctor(1)", x.doctor(1), -1);
         Check.due("doctor(3)", x.doctor(3), -1);
         Check.due("doctor(-1)", x.doctor(-1), -1);
-        setYear(x, 997);
+        Check.setYear(x, 997);
         Check.due("doctor(0) beyond YEAR 999", x.doctor(0), -1);
-        setYear(x, 996);
+        Check.setYear(x, 996);
         Check.due("doctor(0) to YEAR 999", x.doctor(0), 3);
         x.years(3);
         Check.due("doctor(0) now", x.doctor(0), 0);
@@ -80,7 +72,7 @@ public final class AheadTest {
         Check.due("lost(2)", x.lost(2), -1);
         Check.due("lost(3)", x.lost(3), -1);
         Check.due("lost(-1)", x.lost(-1), -1);
-        setYear(x, 998);
+        Check.setYear(x, 998);
         Check.due("lost(0) beyond YEAR 999", x.lost(0), -1);
         PupilsPupil y = Check.schooled(school + "takes year=39 or calm=2;");
         Check.due("lost(0) behind 40 YEARS", y.lost(0), 40);
@@ -107,9 +99,9 @@ public final class AheadTest {
         Check.due("nor r, step by step: none", x.master(0, 0), -1);
         Check.due("nor when", x.master(0, 1), -1);
         Check.due("nothing is done by it", x.person(0, 1), -1);
-        setYear(x, 998);
+        Check.setYear(x, 998);
         Check.due("beyond YEAR 999", x.master(3, 0), -1);
-        setYear(x, 997);
+        Check.setYear(x, 997);
         Check.due("to YEAR 999", x.master(3, 1), 2);
         PupilsPupil y = Check.schooled(school + "taught p by s;knows s a;knows s b;");
         Check.due("PASSED by q ahead of s", y.master(0, 0), 1);
@@ -156,7 +148,7 @@ public final class AheadTest {
         Check.due("one who is WRONG can be told", y.gift(0, 1, 1), 2);
         PupilsPupil z = Check.schooled("fact a worth 8;fact b worth 8;" + school.substring(30));
         Check.due("of like ones the first FACT", z.gift(0, 1, 1), 0);
-        setYear(x, 999);
+        Check.setYear(x, 999);
         Check.due("n 1 in YEAR 999", x.gift(0, 1, 0), -1);
     }
 
@@ -172,7 +164,7 @@ public final class AheadTest {
         Check.due("what 2", x.law(3, 2), -1);
         Check.due("what -1", x.law(3, -1), -1);
         Check.due("nothing is done by it", x.person(0, 5), 0);
-        setYear(x, 997);
+        Check.setYear(x, 997);
         Check.due("n 3 in YEAR 997", x.law(3, 0), -1);
         PupilsPupil y = Check.schooled(CHAIN + "sits left<3;");
         Check.due("none by any number", y.law(3, 1), 0);

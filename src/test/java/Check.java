@@ -1,9 +1,19 @@
+import java.io.IOException;
 import java.nio.charset.StandardCharsets;
+import java.nio.file.Files;
+import java.nio.file.Path;
 
 /** What the tests share: comparing answers, and feeding a tape. */
 final class Check {
+    /** Numbers beyond all bounds, those among them by which a shift or a sum would wrap around. */
+    static final int[] FAR = {Integer.MIN_VALUE, Integer.MIN_VALUE + 1, -1000, -32, -8, -2, 16, 31, 32, 33, 63, 64,
+        256, 65536, Integer.MAX_VALUE - 999, Integer.MAX_VALUE - 1, Integer.MAX_VALUE};
+
+    private static final Path DOCUMENT = Path.of("../shared/DOC.md");
     private static int calls = 0;
     private static int wrong = 0;
+    private static String sentence = "";
+    private static String document = "";
 
     private Check() {
     }
@@ -12,12 +22,30 @@ final class Check {
         calls++;
         if (got != want) {
             wrong++;
-            System.out.println(call + " answered " + got + ", due is " + want);
+            String says = sentence.isEmpty() ? "" : " (" + sentence + ")";
+            System.out.println(call + " answered " + got + ", due is " + want + says);
         }
     }
 
     static void due(String call, boolean got, boolean want) {
         due(call, got ? 1 : 0, want ? 1 : 0);
+    }
+
+    /** What follows holds the class to these words, which must be the document's own. */
+    static void sentence(String words) {
+        sentence = words;
+        due("the document says so", read().contains(words), true);
+    }
+
+    private static String read() {
+        if (document.isEmpty()) {
+            try {
+                document = Files.readString(DOCUMENT).replaceAll("\\s+", " ");
+            } catch (IOException e) {
+                System.out.println("no document at " + DOCUMENT);
+            }
+        }
+        return document;
     }
 
     /** The end of a test: exit code 1 if an answer was not as due. */
@@ -68,6 +96,24 @@ final class Check {
         return x;
     }
 
+    /** A school's text with a fault, on a new object. */
+    static void schoolFault(String text, int kind, int place) {
+        PupilsPupil x = new PupilsPupil();
+        due("school of <" + text + ">", school(x, text), -1);
+        due("fault of <" + text + ">", x.fault(0), kind);
+        due("place in <" + text + ">", x.fault(1), place);
+        due("refused", x.status(1), 1);
+    }
+
+    /** A school's text without a fault, on a new object. */
+    static void schoolFine(String text, int statements) {
+        PupilsPupil x = new PupilsPupil();
+        due("school of <" + text + ">", school(x, text), statements);
+        due("fault of <" + text + ">", x.fault(0), 0);
+        due("place in <" + text + ">", x.fault(1), -1);
+        due("refused", x.status(1), 0);
+    }
+
     static long ask(PupilsPupil x, int person, String text) {
         tape(x, text);
         return x.ask(person);
@@ -101,5 +147,13 @@ final class Check {
     static boolean on(PupilsPupil x, int... bytes) {
         tape(x, bytes);
         return x.on();
+    }
+
+    /** All stays but the year; nothing is kept or can be undone any more. */
+    static void setYear(PupilsPupil x, int year) {
+        int[] image = imageOf(x);
+        image[0] = year / 256;
+        image[1] = year % 256;
+        due("on() with YEAR " + year, on(x, summed(image)), true);
     }
 }

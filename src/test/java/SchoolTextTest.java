@@ -4,11 +4,7 @@ public final class SchoolTextTest {
     private static final String PQR = "person p calm 1;person q calm 1;person r calm 1;";
 
     private static void fault(String text, int kind, int place) {
-        PupilsPupil x = new PupilsPupil();
-        Check.due("school of <" + text + ">", Check.school(x, text), -1);
-        Check.due("fault of <" + text + ">", x.fault(0), kind);
-        Check.due("place in <" + text + ">", x.fault(1), place);
-        Check.due("refused", x.status(1), 1);
+        Check.schoolFault(text, kind, place);
     }
 
     /** A fault right behind what is fine, at its length and so much more. */
@@ -17,10 +13,7 @@ public final class SchoolTextTest {
     }
 
     private static void fine(String text, int statements) {
-        PupilsPupil x = new PupilsPupil();
-        Check.due("school of <" + text + ">", Check.school(x, text), statements);
-        Check.due("fault of <" + text + ">", x.fault(0), 0);
-        Check.due("place in <" + text + ">", x.fault(1), -1);
+        Check.schoolFine(text, statements);
     }
 
     private static void takes(String test, int kind, int more) {
