@@ -219,7 +219,11 @@ public final class EdgeRumourTest {
         image[8] = 255 & ~1;
         image[13] = 255 & ~2;
         Check.due("on()", Check.on(x, Check.summed(image)), true);
-        Check.due("3 has two bits, less than 4, but 4 would have one", x.part(1, 6), 3);
+        Check.due("two FACTS, one for each", x.part(1, 6), 3);
+        // p from q and r by c alone, though a and b together would do, and are the lesser bits.
+        PupilsPupil y = Check.schooled("fact a worth 1;fact b worth 1;fact c worth 1;person p calm 1;person q calm 1;"
+                + "person r calm 1;knows p a;knows p b;knows p c;knows q a;knows r b;");
+        Check.due("the fewest, ahead of the least bits", y.part(1, 6), 4);
         Check.due("all eight are good", x.part(255, 0), 0);
         Check.due("all eight are bad", x.part(0, 255), 0);
         Check.due("a ninth", x.part(256, 0), -1);

@@ -190,6 +190,12 @@ public final class EdgeSchoolTest {
         Check.due("pass 99", w.has(2), 99);
         Check.due("tries 9", w.has(3), 9);
         Check.due("ill 100", w.chance(100), 100);
+        // Without them it is as at first, whatever the school before had; by seed 42 the first draw is 0.
+        Check.school(w, "person p calm 1;");
+        w.seed(42);
+        Check.due("pass without, again", w.has(2), 10);
+        Check.due("tries without, again", w.has(3), 3);
+        Check.due("ill without, again", w.chance(100), 0);
     }
 
     // ---- names, words, numbers, blanks

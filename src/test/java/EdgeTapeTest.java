@@ -214,6 +214,25 @@ public final class EdgeTapeTest {
         }
     }
 
+    private static void smallerSchool() {
+        Check.sentence("Without one all is as at first, nothing is KEPT, HEARD or can be undone; the seed stays");
+        PupilsPupil x = Check.schooled("fact f worth 1;person p calm 1;person q calm 1;person r calm 1;taught r by q;"
+                + "errs q f;pass 0;tries 9;");
+        x.years(1);
+        Check.due("r is WRONG, too", x.has(7), 2);
+        Check.school(x, "fact f worth 1;person p calm 1;person q calm 1;pass 9;");
+        x.years(1);
+        x.chance(1);
+        Check.due("there is no r who could be", x.has(7), 0);
+        Check.due("WRONG of f", x.fact(0, 2), 0);
+        Check.due("RIGHT of f", x.fact(0, 1), 0);
+        Check.due("later", x.later(1, 2), 0);
+        Check.due("PASSED", x.has(5), 0);
+        Check.due("SOURCES", x.sources(0, 0), 0);
+        Check.due("PEOPLE", x.person(2, 5), -1);
+        Check.due("image()", x.image(), 13);
+    }
+
     private static void fault() {
         Check.sentence("its FAULT (what 0; 0 without, and ahead of any), its place (1; NONE without)");
         PupilsPupil x = new PupilsPupil();
@@ -350,6 +369,7 @@ public final class EdgeTapeTest {
         schoolTakesTheTape();
         faultLeavesAll();
         allAsAtFirst();
+        smallerSchool();
         fault();
         letters();
         status();

@@ -96,8 +96,18 @@ public final class EdgeYearTest {
             y.teach(p, 0);
         }
         Check.due("seven PUPILS", y.person(0, 2), 254);
-        y.teach(0, -1);
+        for (int p = 1; p < 8; p++) {
+            y.teach(p, -1);
+        }
+        for (int p = 0; p < 7; p++) {
+            y.teach(p, 7);
+        }
+        Check.due("the first one among them", y.person(7, 2), 127);
+        for (int p = 0; p < 7; p++) {
+            y.teach(p, -1);
+        }
         Check.due("no MASTER", y.person(0, 1), -1);
+        Check.due("no PUPILS", y.person(7, 2), 0);
     }
 
     private static void marks() {
@@ -165,6 +175,24 @@ public final class EdgeYearTest {
                     Check.due("the MASTER stays", x.person(0, 3) + 1000 * x.person(0, 4),
                             m == 0 ? 0 : m == 1 ? 1 << f : 1000 << f);
                 }
+            }
+        }
+    }
+
+    private static void classes() {
+        Check.sentence("how many PUPILS his MASTER has; how calm the MASTER is");
+        StringBuilder people = new StringBuilder("fact f worth 1;");
+        for (int k = 0; k < 8; k++) {
+            people.append("person p").append((char) ('a' + k)).append(" calm ").append(k == 7 ? 99 : 0).append(";");
+        }
+        for (int pupils = 1; pupils <= 7; pupils++) {
+            for (int law = 0; law <= 8; law++) {
+                PupilsPupil x = Check.schooled(people + "knows ph f;takes class=" + law + " and mcalm=99;");
+                for (int k = 0; k < pupils; k++) {
+                    x.teach(k, 7);
+                }
+                Check.due(pupils + " PUPILS, class=" + law, x.next(0), pupils == law ? 0 : -1);
+                Check.due("the last of them", x.next(pupils - 1), pupils == law ? 0 : -1);
             }
         }
     }
@@ -427,6 +455,14 @@ public final class EdgeYearTest {
         // The first draw by seed 1 is 18.
         Check.due("18 is not below 18", Check.schooled("person p calm 1;ill 18;").chance(1), 0);
         Check.due("18 is below 19", Check.schooled("person p calm 1;ill 19;").chance(1), 1);
+        // The first draw by seed 42 is 0, by 85 it is 1, by 76 it is 98, by 119 it is 99.
+        int[][] first = {{42, 0, 0}, {42, 1, 1}, {85, 1, 0}, {85, 2, 1}, {76, 98, 0}, {76, 99, 1}, {119, 99, 0},
+            {119, 100, 1}};
+        for (int[] of : first) {
+            PupilsPupil x = Check.schooled("person p calm 1;ill " + of[1] + ";");
+            x.seed(of[0]);
+            Check.due("by seed " + of[0] + ", ill " + of[1], x.chance(1), of[2]);
+        }
         PupilsPupil y = Check.schooled("person p calm 1;person q calm 1;pass 0;");
         y.years(1);
         y.chance(3);
@@ -479,6 +515,7 @@ public final class EdgeYearTest {
         marks();
         next();
         lastFactIsTaught();
+        classes();
         kept();
         keptAtMost();
         passedAreFirst();
